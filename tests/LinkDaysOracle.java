@@ -105,7 +105,7 @@ public final class LinkDaysOracle {
             StringBuilder s = new StringBuilder();
             char kind = "orpb".charAt(random.nextInt(4));
             s.append(kind);
-            int links = 1 + (random.nextInt(12) == 0 ? random.nextInt(26) : random.nextInt(14));
+            int links = 1 + (random.nextInt(6) == 0 ? random.nextInt(26) : random.nextInt(14));
             int top = random.nextInt(3) == 0 ? 9 : 1 + random.nextInt(4);
             for (int i = 0; i < links; i++) s.append(1 + random.nextInt(top));
             int cuts = random.nextInt(7);
@@ -152,6 +152,10 @@ public final class LinkDaysOracle {
             v = any(1, 60);
             due("due", "due(" + v + ")", x.due(v), m.due(v));
             v = random.nextBoolean() ? any(0, 60) : any(0, 999);
+            if (random.nextBoolean()) {
+                v = random.nextInt(3) - 1;
+                for (int[] p : m.pieces(m.cuts)) if (random.nextBoolean()) v += p[2];
+            }
             due("pays", "pays(" + v + ")", x.pays(v), m.pays(v));
         }
 

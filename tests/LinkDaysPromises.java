@@ -162,6 +162,7 @@ public final class LinkDaysPromises {
         due("cut(7)", x.cut(7), 1);
         due("cut(0)", x.cut(0), 2);
         due("cut(7) again", x.cut(7), NOT);
+        due("cut(0) again", x.cut(0), NOT);
         due("cut(4)", x.cut(4), 3);
         due("cut(2)", x.cut(2), 4);
         due("cut(3)", x.cut(3), 5);
@@ -387,6 +388,21 @@ public final class LinkDaysPromises {
         due("pays(128)", x.pays(128), 0);
         due("pays(217)", x.pays(217), 0);
         due("pays(256)", x.pays(256), 0);
+        chain("o999999999999999999999999/23");
+        due("207, then 9: pays(216)", x.pays(216), 1);
+        due("pays(207)", x.pays(207), 1);
+        due("pays(9)", x.pays(9), 1);
+        due("pays(25)", x.pays(25), 0);
+        due("pays(215)", x.pays(215), 0);
+        chain("p999999999999119999999999/11,12,13");
+        int[] some = {108, 1, 1, 90};
+        boolean[] sum = new boolean[1000];
+        for (int set = 0; set < 16; set++) {
+            int all = 0;
+            for (int i = 0; i < 4; i++) if ((set >> i & 1) == 1) all += some[i];
+            sum[all] = true;
+        }
+        for (int v = 0; v < 1000; v++) due("108, 1, 1, 90: pays(" + v + ")", x.pays(v), sum[v] ? 1 : 0);
         chain("p999999911111199999999/6");
         due("64 and a bit: pays(63)", x.pays(63), 1);
         due("pays(78)", x.pays(78), 1);
@@ -420,6 +436,10 @@ public final class LinkDaysPromises {
         due("1 to 5, then 57", x.far(), 15);
         chain("p1248888888/0,1,2,3,5");
         due("63, but there are 60 days", x.far(), 60);
+        chain("o11111111/1,3,5,7");
+        x.rate(1, 127 - 8);
+        due("due are 8 till day 59", x.far(), 59);
+        x.rate(1, 0);
         chain("o999999999999124/12,13,14,4,9");
         due("as far as 7", x.far(), 7);
         chain("p248999999929/0,1,2,4,5");
@@ -446,6 +466,13 @@ public final class LinkDaysPromises {
         x.rate(1, 127);
         due("nothing is due", x.kept(), 60);
         begin(16);
+        chain("o11111111/1,3,5,7");
+        x.rate(1, 127 - 8);
+        due("eight pieces of 1, till day 59", x.kept(), 59);
+        x.rate(1, 0);
+        chain("o999999999999999999999999/0,1,2,22,23");
+        x.rate(0, 9);
+        due("five of 9, then 171", x.kept(), 5);
         chain("p2131/0,1,2");
         x.rate(0, 3);
         due("3 or 2 and 1 first: 2 days", x.kept(), 2);
@@ -477,6 +504,10 @@ public final class LinkDaysPromises {
         begin(17);
         chain("r111111111111/0,5,6,11");
         due("2, though day 4 could be paid", x.two(1), 2);
+        chain("p1248888888/0,1,2,3,5");
+        x.rate(1, 127);
+        due("all days to the one", x.two(1), 60);
+        due("31 days", x.two(2), 31);
     }
 
     private static void mostDays() {
@@ -678,7 +709,10 @@ public final class LinkDaysPromises {
         due("off", x.rate(1, 1), 3);
         due("double", x.rate(2, 1), 5);
         due("due", x.due(2), 1);
+        due("due(60)", x.due(60), 51);
         due("restore() again", x.restore(), 1);
+        due("due(60)", x.due(60), 102);
+        due("due(59)", x.due(59), 100);
         due("the image stays: notch", x.notch(0), 1);
         due("the image stays: kind", x.count(5), 3);
         due("the image stays: due", x.due(3), 4);
@@ -703,6 +737,9 @@ public final class LinkDaysPromises {
         due("the first", x.seen(1, 0, 1, 0, 3, 0), 2);
         due("no second", x.seen(1, 0, 1, 0, 3, 1), NONE);
         due("a 1 twice by one cut: 1, 5", x.seen(1, 0, 1, 7, 2, -1), 2);
+        ints(1, 1, 2, 1);
+        due("1, 2 and one more 1 by one cut", x.seen(1, 1, 1, 0, 3, -1), 0);
+        x.drop(1);
         due("one 1 by one cut: any", x.seen(1, 0, 1, 1, 1, -1), 7);
         due("by two cuts nothing is left to cut", x.seen(2, 0, 1, 0, 3, -1), 0);
         due("2 and 1 by two cuts", x.seen(2, 0, 1, 0, 2, -1), 9);
@@ -766,6 +803,9 @@ public final class LinkDaysPromises {
         due("nothing there", x.film(1, 1, 0), NULL);
         for (int v : new int[] {-1, 4, LOW, HIGH}) due("film(" + v + ", 1, 0)", x.film(v, 1, 0), BAD);
         for (int v : new int[] {-1, 3, LOW, HIGH}) due("film(0, " + v + ", 0)", x.film(0, v, 0), BAD);
+        x.sheet(0, 1, 6);
+        due("film(0, 1, 1)", x.film(0, 1, 1), 4);
+        due("nothing stands behind", x.seen(2, 0, 1, 5, 1, -1), NOT);
         chain("o999999999999999999999999");
         x.sheet(1, 0, 1);
         x.sheet(2, 2, 1);
