@@ -403,6 +403,10 @@ public final class LinkDaysPromises {
             sum[all] = true;
         }
         for (int v = 0; v < 1000; v++) due("108, 1, 1, 90: pays(" + v + ")", x.pays(v), sum[v] ? 1 : 0);
+        chain("p99999991/6");
+        for (int v = 0; v < 200; v++) due("63, 1: pays(" + v + ")", x.pays(v), v < 2 || v == 63 || v == 64 ? 1 : 0);
+        chain("p99999999/6");
+        for (int v = 0; v < 200; v++) due("63, 9: pays(" + v + ")", x.pays(v), v == 0 || v == 9 || v == 63 || v == 72 ? 1 : 0);
         chain("p999999911111199999999/6");
         due("64 and a bit: pays(63)", x.pays(63), 1);
         due("pays(78)", x.pays(78), 1);
