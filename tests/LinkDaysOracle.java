@@ -109,6 +109,12 @@ public final class LinkDaysOracle {
             int top = random.nextInt(3) == 0 ? 9 : 1 + random.nextInt(4);
             for (int i = 0; i < links; i++) s.append(1 + random.nextInt(top));
             int cuts = random.nextInt(7);
+            if (random.nextInt(8) == 0) {
+                s.setLength(0);
+                s.append(manyPieces(top));
+                kind = 'p';
+                cuts = 0;
+            }
             List<Integer> free = new ArrayList<>();
             for (int i = 0; i < (kind == 'o' || kind == 'r' ? links : links - 1); i++) free.add(i);
             for (int i = 0; i < cuts && !free.isEmpty(); i++) {
@@ -130,6 +136,20 @@ public final class LinkDaysOracle {
                 due("type", "type(" + w + ", " + n + ")", x.type(w, n), m.type(w, n));
             }
             if (random.nextInt(15) > 0) due("chain", "chain()", x.chain(), m.chain());
+        }
+
+        /** An open chain in eleven pieces, the most there can be. */
+        String manyPieces(int top) {
+            StringBuilder worths = new StringBuilder(), cuts = new StringBuilder();
+            int links = 0;
+            for (int i = 0; i < 6; i++) {
+                int row = 1 + random.nextInt(3);
+                for (int j = 0; j <= row; j++) worths.append(1 + random.nextInt(top));
+                links += row;
+                if (i < 5) cuts.append(i == 0 ? '/' : ',').append(links++);
+            }
+            worths.setLength(links);
+            return "o" + worths + cuts;
         }
 
         void type(String s) {

@@ -405,6 +405,8 @@ public final class LinkDaysPromises {
         for (int v = 0; v < 1000; v++) due("108, 1, 1, 90: pays(" + v + ")", x.pays(v), sum[v] ? 1 : 0);
         chain("p99999991/6");
         for (int v = 0; v < 200; v++) due("63, 1: pays(" + v + ")", x.pays(v), v < 2 || v == 63 || v == 64 ? 1 : 0);
+        chain("p9999999799999991/7");
+        for (int v = 0; v < 300; v++) due("70, 64: pays(" + v + ")", x.pays(v), v == 0 || v == 64 || v == 70 || v == 134 ? 1 : 0);
         chain("p99999999/6");
         for (int v = 0; v < 200; v++) due("63, 9: pays(" + v + ")", x.pays(v), v == 0 || v == 9 || v == 63 || v == 72 ? 1 : 0);
         chain("p999999911111199999999/6");
@@ -647,6 +649,13 @@ public final class LinkDaysPromises {
         due("day 1", x.handed(3, 1), 1);
         due("day 2", x.handed(3, 2), 32);
         due("day 3", x.handed(3, 3), 33);
+        begin(20);
+        chain("o11111111111/1,3,5,7,9");
+        due("eleven pieces of 1", x.handed(11, 0), 11);
+        for (int d = 1; d <= 11; d++) due("one more on day " + d, x.handed(11, d), (1 << d) - 1);
+        due("kept", x.kept(), 11);
+        due("two(1)", x.two(1), 5);
+        due("two(9)", x.two(9), 1);
     }
 
     private static void lateCuts() {
@@ -681,6 +690,10 @@ public final class LinkDaysPromises {
         begin(21);
         chain("p11111111/0,1,2,3,4");
         due("five cuts", x.late(8, -1) > 5 ? 1 : 0, 1);
+        x.rate(1, 127);
+        due("five cuts, all on day 60", x.late(60, -1), 300);
+        for (int i = 0; i < 5; i++) due("cut " + i, x.late(60, i), 60);
+        x.rate(1, 0);
         due("the fifth has a day", x.late(8, 4) >= 1 ? 1 : 0, 1);
     }
 
