@@ -713,6 +713,21 @@ public final class LinkDaysEdges {
         due("the seventh", x.due(7), 24);
         due("the eighth", x.due(8), 27);
 
+        says("Sets are bits.");
+        x.rate(1, 65);
+        due("days 1 and 7 are off: due(1)", x.due(1), 0);
+        due("due(2)", x.due(2), 1);
+        due("due(6)", x.due(6), 5);
+        due("due(7)", x.due(7), 5);
+        x.rate(1, 0);
+        chain("o11111111111/1,3,5,7,9");
+        due("the first piece", x.handed(1, 1), 1);
+        due("all eleven", x.handed(11, 11), 2047);
+        chain("o22222222221/1,3,5,7,9");
+        due("the last piece, which is the only 1", x.handed(1, 1), 1024);
+        due("the first piece of 2", x.handed(2, 2), 1);
+        due("both", x.handed(3, 3), 1025);
+
         says("DUE on a DAY is all that comes from DAY 1 to it.");
         set(9, 0, 0);
         for (int day = 1; day <= 60; day++) due("due(" + day + ")", x.due(day), 9 * day);

@@ -73,6 +73,7 @@ public final class LinkDaysPromises {
         mostDays();
         fewestCuts();
         handedPieces();
+        handedAnew();
         lateCuts();
         images();
         seenCuts();
@@ -656,6 +657,52 @@ public final class LinkDaysPromises {
         due("kept", x.kept(), 11);
         due("two(1)", x.two(1), 5);
         due("two(9)", x.two(9), 1);
+    }
+
+    /** Days are asked for one by one: what was found for one holds for the next, until something changes. */
+    private static void handedAnew() {
+        begin(20);
+        chain("p1122/0,1,2");
+        due("1, 1 1, 1 2 or 1, 2, 1 2: the first", x.handed(3, 2), 3);
+        x.worth(1, 2);
+        due("1, 2, 1 2", x.handed(3, 2), 2);
+        x.worth(1, 1);
+        due("as it was", x.handed(3, 2), 3);
+        x.kept();
+        due("kept() looks at other things", x.handed(3, 2), 3);
+        x.two(1);
+        due("two(1) too", x.handed(3, 2), 3);
+        due("in all", x.handed(3, 0), 4);
+        due("in two days", x.handed(2, 0), 2);
+        due("in three days again", x.handed(3, 0), 4);
+        x.rate(1, 2);
+        due("day 2 off: 1, 1, 1 1", x.handed(3, 0), 2);
+        x.rate(1, 0);
+        due("as it was", x.handed(3, 0), 4);
+        x.rate(2, 4);
+        due("day 3 double: 1, 1 1, 1 1 2", x.handed(3, 0), 3);
+        x.rate(2, 0);
+        due("as it was", x.handed(3, 0), 4);
+        x.worth(0, 2);
+        due("the first piece is 2: the second", x.handed(3, 1), 2);
+        x.worth(0, 1);
+        due("as it was", x.handed(3, 1), 1);
+        x.worth(3, 1);
+        due("the last piece is 1: 1, 1 1, 1 1 1", x.handed(3, 0), 3);
+        x.worth(3, 2);
+        due("as it was", x.handed(3, 0), 4);
+        x.mend(2);
+        due("pieces 1, 1, 4: day 3 can't be", x.handed(3, 0), NOT);
+        x.cut(2);
+        due("as it was", x.handed(3, 0), 4);
+        chain("p11221/0,1,2,3");
+        due("1, 1 1, 1 1 1", x.handed(3, 0), 3);
+        due("one more piece", x.handed(3, 3), 19);
+        x.image();
+        chain("p1122/0,1,2");
+        due("one less", x.handed(3, 3), 5);
+        x.restore();
+        due("one more again", x.handed(3, 3), 19);
     }
 
     private static void lateCuts() {

@@ -159,12 +159,12 @@ public final class LinkDaysRefused {
         LinkDays x = make(state);
         int got = ask.applyAsInt(x);
         if (got != want) fail(state + ": " + call + " answered " + got + ", due is " + want);
-        List<Integer> seen = look(x), due = look(make(state));
-        if (!seen.equals(due)) fail(state + ": " + call + " has changed something: " + seen + ", due is " + due);
+        sameAsTwin(state, call, x);
     }
 
     public static void main(String[] args) {
         looksAreSharp();
+        tellingCalls();
         chainCalls();
         tapeCalls();
         faults();
@@ -198,6 +198,65 @@ public final class LinkDaysRefused {
             if (look(x).equals(due)) fail(state + ": looking does not tell change " + i);
         }
         if (!look(make(state)).equals(due)) fail(state + ": looking tells a change where there is none");
+    }
+
+    /** Calls that only tell change nothing, either. */
+    private static void tellingCalls() {
+        for (State s : State.values()) {
+            for (int what = 0; what <= 5; what++) {
+                int w = what;
+                unchanged(s, "count(" + w + ")", x -> x.count(w));
+            }
+            for (int what = 0; what <= 2; what++) {
+                int w = what;
+                unchanged(s, "piece(0, " + w + ")", x -> x.piece(0, w));
+            }
+            unchanged(s, "due(1)", x -> x.due(1));
+            unchanged(s, "due(60)", x -> x.due(60));
+            for (int v : new int[] {0, 1, 216, 999}) unchanged(s, "pays(" + v + ")", x -> x.pays(v));
+            unchanged(s, "far()", x -> x.far());
+            unchanged(s, "kept()", x -> x.kept());
+            for (int v : new int[] {1, 9}) unchanged(s, "two(" + v + ")", x -> x.two(v));
+            for (int k : new int[] {0, 1}) unchanged(s, "most(" + k + ", -1)", x -> x.most(k, -1));
+            unchanged(s, "most(1, 0)", x -> x.most(1, 0));
+            unchanged(s, "fewest(0)", x -> x.fewest(0));
+        }
+        State full = State.FULL_CHAIN, bar = State.SMALL_BAR, day = State.NO_DAY;
+        for (int i = 0; i < 5; i++) {
+            int at = i;
+            unchanged(full, "notch(" + i + ")", x -> x.notch(at));
+            unchanged(full, "late(2, " + i + ")", x -> x.late(2, at));
+        }
+        for (int i = 0; i < 4; i++) {
+            int at = i;
+            unchanged(full, "most(4, " + i + ")", x -> x.most(4, at));
+        }
+        for (int v : new int[] {1, 5, 20}) unchanged(full, "fewest(" + v + ")", x -> x.fewest(v));
+        for (int d : new int[] {0, 1, 7}) unchanged(full, "handed(7, " + d + ")", x -> x.handed(7, d));
+        for (int d : new int[] {0, 1, 3}) unchanged(bar, "handed(3, " + d + ")", x -> x.handed(3, d));
+        for (int i : new int[] {-1, 0, 1}) unchanged(bar, "late(3, " + i + ")", x -> x.late(3, i));
+        for (int k = 0; k <= 3; k++) {
+            int cuts = k;
+            unchanged(full, "seen(" + k + ", 1, 1, 0, 1, -1)", x -> x.seen(cuts, 1, 1, 0, 1, -1));
+            unchanged(bar, "seen(" + k + ", 2, 1, 6, 8, -1)", x -> x.seen(cuts, 2, 1, 6, 8, -1));
+            unchanged(day, "seen(" + k + ", 1, 1, 0, 3, -1)", x -> x.seen(cuts, 1, 1, 0, 3, -1));
+        }
+        unchanged(full, "seen(3, 1, 1, 0, 1, 2)", x -> x.seen(3, 1, 1, 0, 1, 2));
+        unchanged(bar, "sheet of no items, copied onto itself", x -> x.copy(1, 0, 1, 0, 0));
+        unchanged(full, "nothing is copied", x -> x.copy(1, 5, 1, 0, 0));
+        unchanged(full, "a row is copied onto itself", x -> x.copy(1, 0, 1, 0, 5));
+    }
+
+    private static void unchanged(State state, String call, ToIntFunction<LinkDays> ask) {
+        LinkDays x = make(state);
+        int got = ask.applyAsInt(x);
+        if (got < 0) fail(state + ": " + call + " answered " + got);
+        sameAsTwin(state, call, x);
+    }
+
+    private static void sameAsTwin(State state, String call, LinkDays x) {
+        List<Integer> seen = look(x), due = look(make(state));
+        if (!seen.equals(due)) fail(state + ": " + call + " has changed something: " + seen + ", due is " + due);
     }
 
     private static void chainCalls() {

@@ -240,9 +240,11 @@ public final class LinkDays {
         if (daysPaid() < n) {
             return NOT;
         }
-        sets.load(pieces);
-        int all = sets.lookBack(days.dues, n);
-        return day == 0 ? all : sets.onCounter(days.dues, day);
+        if (!sets.hasLookedBack(pieces, days.dues, n)) {
+            sets.load(pieces);
+            sets.lookBack(days.dues, n);
+        }
+        return day == 0 ? sets.handedInAll(days.dues) : sets.onCounter(days.dues, day);
     }
 
     public int late(int n, int i) {
@@ -716,8 +718,14 @@ public final class LinkDays {
         /** Of a set: 1 or 0, whether it is reached; or how many pieces are handed behind it. */
         final int[] notes = new int[MOST_SETS];
         int whole;
+        int pieceCount;
+        /** For how many days the notes tell what is handed, and by which dues; 0: they don't. */
+        int lookedBack;
+        final int[] lookedAt = new int[LAST_DAY + 1];
 
         void load(Pieces pieces) {
+            pieceCount = pieces.count;
+            lookedBack = 0;
             worths[0] = 0;
             for (int i = 0; i < pieces.count; i++) {
                 int bit = 1 << i;
@@ -813,10 +821,10 @@ public final class LinkDays {
 
         /**
          * Notes of each set how many pieces are handed behind its last day at the fewest, from day
-         * n back; answers how many in all. A set has one worth, so one note does for all its days:
-         * from a day to the next with the same due nothing need be handed.
+         * n back. A set has one worth, so one note does for all its days: from a day to the next
+         * with the same due nothing need be handed.
          */
-        int lookBack(int[] dues, int n) {
+        void lookBack(int[] dues, int n) {
             for (int at = from(dues[n]); at < to(dues[n]); at++) {
                 notes[order[at]] = 0;
             }
@@ -825,6 +833,29 @@ public final class LinkDays {
                     lookAhead(dues[day], dues[day + 1]);
                 }
             }
+            System.arraycopy(dues, 0, lookedAt, 0, LAST_DAY + 1);
+            lookedBack = n;
+        }
+
+        /** Whether the notes hold for these still: days are asked for one by one, and notes are dear. */
+        boolean hasLookedBack(Pieces pieces, int[] dues, int n) {
+            if (lookedBack != n || pieceCount != pieces.count) {
+                return false;
+            }
+            for (int i = 0; i < pieceCount; i++) {
+                if (worths[1 << i] != pieces.value[i]) {
+                    return false;
+                }
+            }
+            for (int day = 1; day <= n; day++) {
+                if (lookedAt[day] != dues[day]) {
+                    return false;
+                }
+            }
+            return true;
+        }
+
+        int handedInAll(int[] dues) {
             return handedTo(0, follower(0, dues[1]));
         }
 
@@ -1032,7 +1063,7 @@ public final class LinkDays {
         }
 
         private void readWorths(Chain into) {
-            while (into.links < MOST_LINKS && within(sight(), '1', '9')) {
+            for (int i = 0; i < MOST_LINKS && within(sight(), '1', '9'); i++) {
                 into.append(bytes[at] - '0');
                 at++;
             }
