@@ -703,6 +703,14 @@ public final class LinkDaysPromises {
         due("one less", x.handed(3, 3), 5);
         x.restore();
         due("one more again", x.handed(3, 3), 19);
+        chain("p1122/0,1,2");
+        due("1 1 2 2", x.handed(3, 1), 1);
+        chain("p2211/0,1,2");
+        due("2 2 1 1: each piece is another", x.handed(3, 1), 4);
+        chain("p111111/0,1,2,3,4");
+        due("one each day", x.handed(3, 0), 3);
+        x.rate(0, 2);
+        due("two each day: each due is another", x.handed(3, 0), 6);
     }
 
     private static void lateCuts() {

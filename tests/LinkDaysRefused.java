@@ -15,7 +15,7 @@ public final class LinkDaysRefused {
     private static int wrong = 0, calls = 0;
 
     /** How an object came to hold what it holds. */
-    private enum State { FULL_CHAIN, SMALL_BAR, NO_DAY, NEW }
+    private enum State { FULL_CHAIN, SMALL_BAR, NO_DAY, ROPE, NEW }
 
     private static LinkDays make(State state) {
         LinkDays x = new LinkDays();
@@ -23,6 +23,7 @@ public final class LinkDaysRefused {
             case FULL_CHAIN: fullChain(x); break;
             case SMALL_BAR: smallBar(x); break;
             case NO_DAY: noDay(x); break;
+            case ROPE: rope(x); break;
             default:
         }
         return x;
@@ -60,6 +61,15 @@ public final class LinkDaysRefused {
         row(x, 0, 1, 0, 1000, 5, -1);
         row(x, 1, 1, 7, 8, 9);
         type(x, "p11/0");
+    }
+
+    /** One cut of two, no image, a row in each sheet but the first. */
+    private static void rope(LinkDays x) {
+        read(x, "p124/0");
+        row(x, 1, 1, 5, 6, 7);
+        row(x, 2, 0, 8, 9);
+        row(x, 3, 2, 10);
+        type(x, "b21/0");
     }
 
     private static void type(LinkDays x, String text) {
@@ -407,6 +417,11 @@ public final class LinkDaysRefused {
         refused(State.NEW, "late(1, 4)", NONE, x -> x.late(1, 4));
         refused(State.NEW, "restore()", NONE, x -> x.restore());
         refused(State.SMALL_BAR, "restore()", NONE, x -> x.restore());
+        refused(State.ROPE, "restore()", NONE, x -> x.restore());
+        for (int i = 1; i <= 4; i++) {
+            int at = i;
+            refused(State.ROPE, "one cut: late(1, " + i + ")", NONE, x -> x.late(1, at));
+        }
         refused(State.SMALL_BAR, "late(1, 2)", NONE, x -> x.late(1, 2));
         refused(State.SMALL_BAR, "late(1, 4)", NONE, x -> x.late(1, 4));
     }
@@ -486,11 +501,8 @@ public final class LinkDaysRefused {
                 for (int n : new int[] {-1, LOW}) refused(s, "sheet(" + at + ", 1, " + n + ")", SIZE, x -> x.sheet(at, 1, n));
             }
         }
-        int[] nothing = {3, 0, 2, 1};
         for (State s : State.values()) {
-            int at = nothing[s.ordinal()];
-            if (s == State.NO_DAY) at = 3;
-            int empty = at;
+            int empty = s == State.SMALL_BAR || s == State.ROPE ? 0 : 3;
             refused(s, "nothing there: drop", NULL, x -> x.drop(empty));
             for (int i : new int[] {0, -1, 24, HIGH}) {
                 refused(s, "nothing there, perhaps no such item: film", NULL, x -> x.film(empty, 1, i));
