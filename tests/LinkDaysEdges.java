@@ -1,8 +1,12 @@
+import java.nio.file.Files;
+import java.nio.file.Path;
+import java.util.ArrayList;
+import java.util.List;
 import java.util.function.IntUnaryOperator;
 
 /**
- * Each sentence of the document that names a boundary, word by word, with a test of its own: the last
- * value that is taken and the first that is not, on both sides; empty, full, round the end.
+ * Each sentence of the document, word by word, with a test of its own: the last value that is taken and
+ * the first that is not, on both sides; empty, full, round the end. No sentence may be left out.
  */
 public final class LinkDaysEdges {
     private static final int BAD = -1, NOT = -2, FULL = -3, NONE = -4, NULL = -11, CAST = -12, INDEX = -13, SIZE = -14;
@@ -12,6 +16,7 @@ public final class LinkDaysEdges {
     private static final String TO_59 = "p1248889991/0,1,2,3,5", TO_60 = "p1248889992/0,1,2,3,5", TO_63 = "p1248889995/0,1,2,3,5";
     private static int wrong = 0, sentences = 0, asked = 0, calls = 0;
     private static String sentence = "";
+    private static final List<String> quotes = new ArrayList<>();
     private static LinkDays x = new LinkDays();
 
     /** What the document says; what follows is asked of a new object. */
@@ -19,6 +24,7 @@ public final class LinkDaysEdges {
         if (sentences > 0 && asked == 0) fail("nothing was asked");
         renew();
         sentence = text;
+        quotes.add(text);
         sentences++;
         asked = 0;
     }
@@ -99,8 +105,9 @@ public final class LinkDaysEdges {
         for (int what = 0; what < 3; what++) x.rate(what, rates[what]);
     }
 
-    public static void main(String[] args) {
+    public static void main(String[] args) throws Exception {
         answersAndCalls();
+        refusals();
         links();
         kinds();
         notches();
@@ -115,6 +122,7 @@ public final class LinkDaysEdges {
         rates();
         week();
         paid();
+        terms();
         far();
         kept();
         two();
@@ -129,9 +137,39 @@ public final class LinkDaysEdges {
         sheets();
         items();
         copies();
-        says("the end");
-        System.out.println(wrong == 0 ? (sentences - 1) + " sentences hold" : wrong + " answers are not as due");
+        if (asked == 0) fail("nothing was asked");
+        sentence = "the document";
+        document();
+        System.out.println(wrong == 0 ? sentences + " sentences hold" : wrong + " answers are not as due");
         if (wrong != 0) System.exit(1);
+    }
+
+    /** What the document has beside its sentences: heads, signatures, names ahead of a colon. */
+    private static final String HEADS = "## Terms|## Promise \\d+: [\\w ]+ `[^`]*`:|==== \\d|```(text)?|FAULTS:|SEEN:|SEEN, by k CUTS:"
+        + "|Ahead of the calls [^:]* the interface says: ---- (1 the chain|2 days|3 counters|4)";
+
+    /** Each quote stands in the document, and all that it says is quoted. */
+    private static void document() throws Exception {
+        Path source = Path.of(System.getProperty("linkdays.source", "src/main/java/LinkDays.java")).toAbsolutePath().normalize();
+        Path file = source.getParent().getParent().getParent().getParent().resolveSibling("shared").resolve("DOC.md");
+        if (!Files.isReadable(file)) {
+            System.out.println("there is no " + file + ": quotes are not held against it");
+            return;
+        }
+        String all = Files.readString(file).replaceAll("\\s+", " ");
+        StringBuilder left = new StringBuilder(all);
+        for (String quote : quotes) {
+            int at = all.indexOf(quote);
+            if (at < 0) fail("it doesn't say: " + quote);
+            for (; at >= 0; at = all.indexOf(quote, at + 1)) {
+                for (int i = at; i < at + quote.length(); i++) left.setCharAt(i, '\n');
+            }
+        }
+        int from = all.indexOf("## Terms"), to = all.indexOf("## Not promised");
+        if (from < 0 || to < from) fail("its heads are other ones");
+        else for (String rest : left.substring(from, to).replaceAll(HEADS, "\n").split("\n+")) {
+            if (rest.matches(".*\\w.*")) fail("no test quotes: " + rest);
+        }
     }
 
     // ---- terms
@@ -156,6 +194,88 @@ public final class LinkDaysEdges {
         renew();
         for (int i = 1; i <= 511; i++) due("restore(), call " + i, x.restore(), NONE);
         due("restore(), call 512", x.restore(), NONE);
+    }
+
+    private static void refusals() {
+        says("Answers below 0, of several the first that a call names: BAD -1 (a number is not as told, there is no such thing), NOT -2 (as told), FULL -3, NONE -4 (as told), CAST -12 (of SHEETS another LANE); what the machine finds: NULL -11, INDEX -13, SIZE -14 (NULL, CAST, INDEX, SIZE in this order).");
+        chain("o" + ONES + "/0,1,2,3,4");
+        due("24 links, and no worth: link", x.link(10), BAD);
+        due("24 links: link", x.link(9), FULL);
+        due("5 cuts, and no notch: cut", x.cut(24), BAD);
+        due("5 cuts, and cut already: cut", x.cut(4), NOT);
+        due("5 cuts: cut", x.cut(5), FULL);
+        while (x.type(0x2020202020202020L, 4) < 60) calls++;
+        due("60 bytes, and byte 31: type", x.type(31, 1), BAD);
+        due("60 bytes, and no n: type", x.type(32, 0), BAD);
+        due("60 bytes: type", x.type(32, 1), FULL);
+        due("60 blanks: chain", x.chain(), -80);
+        chain("o12/0");
+        due("too many cuts, and no i: most", x.most(4, 4), BAD);
+        due("too many cuts: most", x.most(4, 3), NONE);
+        due("FAR is less, and no day: handed", x.handed(4, 5), BAD);
+        due("FAR is less: handed", x.handed(4, 4), NOT);
+        due("FAR is less, and no i: late", x.late(4, 5), BAD);
+        due("FAR is less, and no i-th: late", x.late(4, 4), NOT);
+        due("no i-th: late", x.late(3, 4), NONE);
+        due("no sheet, and n below 0: sheet", x.sheet(4, 0, -1), BAD);
+        due("no lane, and n below 0: sheet", x.sheet(0, 3, -1), BAD);
+        due("n below 0: sheet", x.sheet(0, 0, -1), SIZE);
+        row(0, 1, 0, 1);
+        row(1, 2, 1);
+        due("nothing there, and no lane: item", x.item(2, 3, 9, 1), BAD);
+        due("nothing there, and no such item: item", x.item(2, 0, 9, 1), NULL);
+        due("another lane, and no such item: item", x.item(0, 0, 9, 1), CAST);
+        due("no such item: item", x.item(0, 1, 9, 1), INDEX);
+        due("nothing there, and no lane: film", x.film(2, 3, 9), BAD);
+        due("nothing there, and no such item: film", x.film(2, 0, 9), NULL);
+        due("another lane, and no such item: film", x.film(0, 0, 9), CAST);
+        due("no such item: film", x.film(0, 1, 1), INDEX);
+        due("nothing there, and no sheet: copy", x.copy(2, 9, 4, 9, 9), BAD);
+        due("nothing at the one, no such items: copy", x.copy(2, 9, 0, 9, 9), NULL);
+        due("nothing at the other, no such items: copy", x.copy(0, 9, 2, 9, 9), NULL);
+        due("unlike lanes, no such items: copy", x.copy(0, 9, 1, 9, 9), CAST);
+        due("no such items: copy", x.copy(0, 9, 0, 9, 9), INDEX);
+        for (int bad = 0; bad < 4; bad++) {
+            due("nothing there, and a number: seen", x.seen(bad == 0 ? 4 : 1, 2, bad == 1 ? 3 : 0, 9, bad == 2 ? 9 : 1, bad == 3 ? 3 : 0), BAD);
+        }
+        due("nothing there, and no such item: seen", x.seen(1, 2, 0, 9, 1, 0), NULL);
+        due("another lane, and no such item: seen", x.seen(1, 0, 0, 9, 1, 0), CAST);
+        due("no such item behind one that is no worth: seen", x.seen(1, 0, 1, 0, 3, 0), INDEX);
+        due("no worth, and no j-th: seen", x.seen(1, 0, 1, 0, 2, 2), NOT);
+        due("no j-th: seen", x.seen(1, 0, 1, 1, 1, 2), NONE);
+
+        says("What is refused changes nothing, but as told.");
+        chain("b234/0");
+        x.image();
+        chain("o12/0");
+        row(0, 1, 2, 3);
+        type("p11");
+        for (int v : new int[] {LOW, -1, 99, HIGH}) {
+            due("kind", x.kind(v), BAD);
+            due("link", x.link(v), BAD);
+            due("worth", x.worth(0, v), BAD);
+            due("cut", x.cut(v), BAD);
+            due("mend", x.mend(v), BAD);
+            due("type", x.type(32, v), BAD);
+            due("rate", x.rate(0, v), BAD);
+            due("sheet", x.sheet(0, v, 1), BAD);
+            due("drop", x.drop(v), BAD);
+            due("item", x.item(0, 1, v, 1), INDEX);
+            due("film", x.film(0, 1, v), INDEX);
+            due("copy", x.copy(0, 0, 0, 1, v), INDEX);
+        }
+        due("cut again", x.cut(0), NOT);
+        due("mend what is not cut", x.mend(1), NOT);
+        pieces("all stays", 0, 1, 1, 1, 1, 2);
+        due("the rate", x.due(60), 60);
+        due("the items", x.seen(0, 0, 1, 0, 2, -1), 0);
+        due("the row", x.drop(0), 2);
+        due("the tape", x.type('x', 1), 4);
+        due("as told: the tape is empty then", x.chain(), -23);
+        due("as told: the tape is empty then", x.chain(), -20);
+        pieces("all stays", 0, 1, 1, 1, 1, 2);
+        due("the image", x.restore(), 1);
+        pieces("as it was then", 0, 1, 1, 1, 2, 7);
     }
 
     // ---- 1 the chain
@@ -261,6 +381,26 @@ public final class LinkDaysEdges {
     }
 
     private static void pieces() {
+        says("PIECES, by their first LINKS");
+        int[][] first = {{0, 1, 2, 4, 5}, {1, 2, 4, 5}, {0, 2, 5}, {0, 2, 5}};
+        for (int kind = 0; kind < 4; kind++) {
+            chain("orpb".charAt(kind) + "9876543/4,1");
+            due("how many, kind " + kind, x.count(3), first[kind].length);
+            for (int i = 0; i < first[kind].length; i++) due("kind " + kind + ", piece " + i, x.piece(i, 0), first[kind][i]);
+        }
+
+        says("WORTH of a PIECE: of its LINKS together.");
+        chain("o123456789/3");
+        pieces("open", 0, 3, 6, 3, 1, 4, 4, 5, 35);
+        chain("r123456789/3");
+        pieces("ring", 3, 1, 4, 4, 8, 41);
+        chain("p123456789/3");
+        pieces("rope", 0, 4, 10, 4, 5, 35);
+        chain("b123456789/3");
+        pieces("bar", 0, 4, 9, 4, 5, 35);
+        x.worth(1, 9);
+        pieces("a link of another worth", 0, 4, 16, 4, 5, 35);
+
         says("an OPEN chain: a LINK that is CUT is a PIECE alone, so is each longest row of LINKS, one behind the other, that are not CUT.");
         chain("o12345");
         pieces("none cut", 0, 5, 15);
@@ -345,7 +485,7 @@ public final class LinkDaysEdges {
     }
 
     private static void barPieces() {
-        says("by each LINK whose NOTCH is CUT its WORTH counts 1 less (1 at least)");
+        says("A BAR: likewise, and by each LINK whose NOTCH is CUT its WORTH counts 1 less (1 at least)");
         chain("b11/0");
         pieces("of 1: 1", 0, 1, 1, 1, 1, 1);
         chain("b21/0");
@@ -728,6 +868,13 @@ public final class LinkDaysEdges {
         due("the first piece of 2", x.handed(2, 2), 1);
         due("both", x.handed(3, 3), 1025);
 
+        says("DUE. BAD.");
+        due("due(1)", x.due(1), 1);
+        due("due(60)", x.due(60), 60);
+        set(2, 2, 1);
+        due("double, off, then 2", x.due(3), 6);
+        outside("due", 1, 60, BAD, v -> x.due(v));
+
         says("DUE on a DAY is all that comes from DAY 1 to it.");
         set(9, 0, 0);
         for (int day = 1; day <= 60; day++) due("due(" + day + ")", x.due(day), 9 * day);
@@ -795,6 +942,28 @@ public final class LinkDaysEdges {
         chain("o99999999/1,3,5,7");
         set(9, 119, 0);
         due("72 on day 59", x.far(), 59);
+    }
+
+    /** Calls that answer a term: as it is now, whatever was asked ahead. */
+    private static void terms() {
+        says("FAR.");
+        due("one link", x.far(), 1);
+        chain("o1111111/2");
+        due("2 1 4", x.far(), 7);
+        x.mend(2);
+        due("7", x.far(), 0);
+        x.rate(0, 7);
+        due("7 by 7", x.far(), 1);
+
+        says("KEPT.");
+        due("one link", x.kept(), 1);
+        chain("p1123/0,1,2");
+        due("1, 1 1, no more", x.kept(), 2);
+        x.mend(1);
+        due("1 3 3", x.kept(), 1);
+        x.rate(0, 3);
+        due("3, 3 3, no more", x.kept(), 2);
+        due("FAR is as much", x.far(), 2);
     }
 
     private static void kept() {
@@ -1027,6 +1196,20 @@ public final class LinkDaysEdges {
         chain(TO_60);
         due("handed(60, 60)", x.handed(60, 60), 63);
         due("handed(61, 60)", x.handed(61, 60), BAD);
+
+        says("on each DAY a set of PIECES lies on the counter whose WORTH is DUE");
+        chain("p1248889/0,1,2,3,5");
+        set(2, 4, 34);
+        int far = x.far();
+        due("FAR: 40 on day 18", far, 18);
+        for (int n = 1; n <= far; n++) {
+            for (int day = 1; day <= n; day++) {
+                int worth = 0, set = x.handed(n, day);
+                for (int i = 0; i < 6; i++) if ((set >> i & 1) != 0) worth += new int[] {1, 2, 4, 8, 16, 9}[i];
+                due("worth of handed(" + n + ", " + day + ")", set < 64 ? worth : -1, x.due(day));
+                calls++;
+            }
+        }
 
         says("from each DAY to the next (and from none to DAY 1) those are handed that come or go");
         chain("p121/0,1");
